@@ -7,6 +7,7 @@ public final class GrammarTest {
         noStatements();
         order();
         longTexts();
+        oneObject();
         CHECK.end();
     }
 
@@ -85,6 +86,21 @@ public final class GrammarTest {
         CHECK.text("1+(2+(3+(4+(5+(6+(7+8)+9)+10)+11)+12)+13)+14", "[] 105");
         CHECK.text("((((((1-2)-3)-4)-5)-6)-7)-8", "[] -34");
         CHECK.text("((((((1 2,3)+1),4)*2),5)-1 2 3 4 5),-6", "[6] 3 4 5 4 0 -6");
+    }
+
+    /** What an earlier run left behind, in whatever place it ended, is of no account. */
+    private static void oneObject() {
+        RankCalc calc = new RankCalc();
+        String inDepth = "((((((1 2,3),4),5),6),7),8),9";
+        for (int k = 0; k < 20; k++) {
+            CHECK.same("in depth", Check.outcome(calc, inDepth), "[9] 1 2 3 4 5 6 7 8 9");
+            CHECK.same("open", Check.outcome(calc, "((((((1"), "-1");
+            CHECK.same("closed", Check.outcome(calc, "1))"), "-1");
+            CHECK.same("in ( )", Check.outcome(calc, "(((((1+(1%0))))))"), "D");
+            CHECK.same("waiting", Check.outcome(calc, "(((((B+1)+2)+3)+4)+5)+6"), "N");
+            CHECK.same("row", Check.outcome(calc, "1 ".repeat(48) + "1"), "S");
+            CHECK.same("one", Check.outcome(calc, "7"), "[] 7");
+        }
     }
 
     private static void longTexts() {

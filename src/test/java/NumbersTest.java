@@ -71,6 +71,8 @@ public final class NumbersTest {
         CHECK.text("-1 0 _1", "[3] -1 0 1");
         CHECK.text("|1 0 _1", "[3] 1 0 1");
         CHECK.text("*5 0 _5", "[3] 1 0 -1");
+        CHECK.text("*1 _1", "[2] 1 -1");
+        CHECK.text("-48r1", "[48]" + " -1".repeat(48));
         CHECK.text("-" + MOST, "[] -2147483647");
         CHECK.text("-" + LEAST, "S");
         CHECK.text("|" + LEAST, "S");
@@ -83,6 +85,8 @@ public final class NumbersTest {
     private static void each() {
         CHECK.text("1 2 3+4 5 6", "[3] 5 7 9");
         CHECK.text("10-1 2 3", "[3] 9 8 7");
+        CHECK.text("(48r1)+48r2", "[48]" + " 3".repeat(48));
+        CHECK.text("(2 3 8r1)+2 3 8r2", "[2 3 8]" + " 3".repeat(48));
         CHECK.text("1 2 3-10", "[3] -9 -8 -7");
         CHECK.text("(2 2r1 2 3 4)*2 2r5 6 7 8", "[2 2] 5 12 21 32");
         CHECK.text("10+2 1 2r1 2 3 4", "[2 1 2] 11 12 13 14");
@@ -169,6 +173,7 @@ public final class NumbersTest {
     private static void inner() {
         CHECK.text("1 2 3+.*4 5 6", "[] 32");
         CHECK.text("1 2 3-.*4 5 6", "[] 12");
+        CHECK.text("(i48)+.*48r2", "[] 2256");
         CHECK.text("(2 3ri6)+.*3 2ri6", "[2 2] 10 13 28 40");
         CHECK.text("(2 3ri6)+.*1 2 3", "[2] 8 26");
         CHECK.text("1 2+.*2 3ri6", "[3] 6 9 12");

@@ -131,6 +131,9 @@ public final class ShapesTest {
         CHECK.text("t2 3 4ri24", "[4 3 2] 0 12 4 16 8 20 1 13 5 17 9 21 2 14 6 18 10 22 3 15 7 19 11 23");
         CHECK.text("t0 3 4r1", "[4 3 0]");
         CHECK.text("t2 0r1", "[0 2]");
+        CHECK.text("t1 48r1", "[48 1]" + " 1".repeat(48));
+        CHECK.text("t48 1r1", "[1 48]" + " 1".repeat(48));
+        CHECK.text("ti48", Check.outcome(new RankCalc(), "i48"));
         CHECK.text("t48 0 47r1", "[47 0 48]");
         CHECK.text("v5", "[] 5");
         CHECK.text("v1 2 3", "[3] 3 2 1");
@@ -144,6 +147,7 @@ public final class ShapesTest {
     private static void pick() {
         CHECK.text("1p5 6 7", "[] 6");
         CHECK.text("2 0 2p5 6 7", "[3] 7 5 7");
+        CHECK.text("(i48)pi48", Check.outcome(new RankCalc(), "i48"));
         CHECK.text("1p2 3ri6", "[3] 3 4 5");
         CHECK.text("1 0 1p2 2ri4", "[3 2] 2 3 0 1 2 3");
         CHECK.text("1p2 2 2ri8", "[2 2] 4 5 6 7");
