@@ -443,18 +443,18 @@ public final class RankCalc {
             finished = 0;
             waiting[0] = NONE;
             for (int k = statement.steps - 1; k >= 0; k--) {
-                boolean termEnds = take(statement, k, names);
-                int function = waiting[level];
-                if (termEnds && function != NONE) {
+                if (statement.kinds[k] == Statement.OF_ONE) {
+                    workOnOne(statement, k);
+                } else if (endsTerm(statement, k, names) && waiting[level] != NONE) {
+                    workOnTwo(statement, waiting[level]);
                     waiting[level] = NONE;
-                    workOnTwo(statement, function);
                 }
             }
             return values[0];
         }
 
-        /** Whether a term is whole with this step: a function of two that waits for it has it now. */
-        private boolean take(Statement statement, int k, Names names) {
+        /** Takes a step; whether a term is whole with it, so that a function of two may be done. */
+        private boolean endsTerm(Statement statement, int k, Names names) {
             switch (statement.kinds[k]) {
                 case Statement.CLOSE:
                     level++;
@@ -462,9 +462,6 @@ public final class RankCalc {
                     return false;
                 case Statement.OF_TWO:
                     waiting[level] = k;
-                    return false;
-                case Statement.OF_ONE:
-                    workOnOne(statement, k);
                     return false;
                 case Statement.OPEN:
                     level--;
