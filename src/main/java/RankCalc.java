@@ -535,7 +535,7 @@ public final class RankCalc {
     /** The number functions, and what is made of them for arrays. */
     private static final class Numbers {
         static int fit(long exact) {
-            if (exact < Integer.MIN_VALUE || exact > Integer.MAX_VALUE) {
+            if (exact != (int) exact) {
                 throw new IllegalStateException();
             }
             return (int) exact;
