@@ -26,7 +26,6 @@ public final class RankCalc {
     private final Grid result = new Grid();
 
     public RankCalc() {
-        result.addAxis(0);
     }
 
     public int feed(int w) {
@@ -150,12 +149,15 @@ public final class RankCalc {
         }
     }
 
-    /** An array: its lengths, and its elements in a row, the last axis running fastest. */
+    /**
+     * An array: its lengths, and its elements in a row, the last axis running fastest. A new one is the
+     * vector without elements, so that it can be a new object's result as it is.
+     */
     private static final class Grid {
         private final int[] lengths = new int[MOST_AXES];
         private final int[] cells = new int[MOST_CELLS];
-        private int axes;
-        private int count = 1;
+        private int axes = 1;
+        private int count;
 
         /** Makes this a scalar, to which the axes are then added. */
         void restart() {

@@ -1,38 +1,77 @@
+import java.io.IOException;
 import java.lang.reflect.Constructor;
 import java.lang.reflect.Field;
 import java.lang.reflect.Method;
 import java.lang.reflect.Modifier;
-import java.util.Arrays;
+import java.nio.file.Files;
+import java.nio.file.Path;
 import java.util.TreeSet;
 
-/** The public face: the class, its constructor and its methods, and no other member to be seen. */
+/** The public face: what stands under 'The public face' in the document, word for word, and no other member. */
 public final class FaceTest {
-    private static final String[] METHODS = {
-        "int feed(int)", "void clear()", "int run()", "int rank()", "int axis(int)", "int size()",
-        "long element(int)", "long sum()", "int held(int)", "boolean forget(int)", "int done()"};
+    private static final String RUN = "public int run() throws IllegalStateException, ArithmeticException,"
+            + " IllegalArgumentException, UnsupportedOperationException, IndexOutOfBoundsException, NoSuchElementException";
+    private static final String[] FACE = {
+        "public RankCalc()", "public int feed(int)", "public void clear()", RUN, "public int rank()",
+        "public int axis(int)", "public int size()", "public long element(int)", "public long sum()",
+        "public int held(int)", "public boolean forget(int)", "public int done()"};
 
-    public static void main(String[] args) throws Exception {
+    public static void main(String[] args) throws IOException {
         Check check = new Check();
-        int modifiers = RankCalc.class.getModifiers();
-        check.same("public final", Modifier.isPublic(modifiers) && Modifier.isFinal(modifiers), true);
-        TreeSet<String> visible = new TreeSet<>();
-        for (Method m : RankCalc.class.getDeclaredMethods()) {
-            if (!Modifier.isPrivate(m.getModifiers()) && !m.isSynthetic()) {
-                visible.add(m.getReturnType().getName() + " " + m.getName()
-                        + (m.getParameterCount() == 0 ? "()" : Arrays.toString(m.getParameterTypes())
-                                .replace('[', '(').replace(']', ')')));
-                check.same(m + " is public", Modifier.isPublic(m.getModifiers()), true);
-            }
+        TreeSet<String> due = new TreeSet<>();
+        for (String member : FACE) {
+            due.add(member);
         }
-        check.same("methods", visible, new TreeSet<>(Arrays.asList(METHODS)));
+        check.same("class", Modifier.toString(RankCalc.class.getModifiers()), "public final");
+        check.same("package", RankCalc.class.getPackageName(), "");
+        check.same("superclass", RankCalc.class.getSuperclass(), Object.class);
+        check.same("interfaces", RankCalc.class.getInterfaces().length, 0);
+        check.same("members", visibleMembers(), due);
         for (Field f : RankCalc.class.getDeclaredFields()) {
             check.same(f + " is private", Modifier.isPrivate(f.getModifiers()), true);
         }
-        Constructor<?>[] made = RankCalc.class.getDeclaredConstructors();
-        check.same("constructors", made.length, 1);
-        check.same("constructor", made[0].toString(), "public RankCalc()");
-        int thrown = RankCalc.class.getMethod("run").getExceptionTypes().length;
-        check.same("exceptions of run", thrown, 6);
+        for (Class<?> inside : RankCalc.class.getDeclaredClasses()) {
+            int modifiers = inside.getModifiers();
+            check.same(inside + " is static", Modifier.isStatic(modifiers), true);
+            check.same(inside + " is to be seen", Modifier.isPublic(modifiers) || Modifier.isProtected(modifiers), false);
+        }
+        Path document = Path.of("../shared/DOC.md");
+        if (Files.exists(document)) {
+            check.same("members in the document", membersOf(Files.readString(document)), due);
+        }
         check.end();
+    }
+
+    private static TreeSet<String> visibleMembers() {
+        TreeSet<String> visible = new TreeSet<>();
+        for (Method m : RankCalc.class.getDeclaredMethods()) {
+            if (!Modifier.isPrivate(m.getModifiers()) && !m.isSynthetic()) {
+                visible.add(plain(m.toString()));
+            }
+        }
+        for (Constructor<?> c : RankCalc.class.getDeclaredConstructors()) {
+            if (!Modifier.isPrivate(c.getModifiers()) && !c.isSynthetic()) {
+                visible.add(plain(c.toString()));
+            }
+        }
+        return visible;
+    }
+
+    /** The head of a member without packages, without its class, and with a blank behind each comma. */
+    private static String plain(String head) {
+        return head.replaceAll("java\\.(lang|util)\\.", "").replace("RankCalc.", "").replaceAll(",\\s*", ", ");
+    }
+
+    private static TreeSet<String> membersOf(String document) {
+        int from = document.indexOf("public final class RankCalc {");
+        String block = from < 0 ? "" : document.substring(from, document.indexOf("```", from));
+        TreeSet<String> members = new TreeSet<>();
+        for (String line : block.split("\n")) {
+            if (line.endsWith(";")) {
+                // parameters have a name there
+                members.add(line.trim().replace(";", "").replaceAll("(int|long) \\w+(?=[,)])", "$1"));
+            }
+        }
+        return members;
     }
 }
